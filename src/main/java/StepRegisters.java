@@ -651,7 +651,7 @@ public final class StepRegisters {
             }
         }
 
-        /** Cells are tried from the least one on and only what is better is kept, so the first of as cheap ones stays. */
+        /** Cells are tried as they rise and only what is better is kept, so the first of as cheap ones stays. */
         private void lay(int depth, int takenCells, int sum) {
             int variable = members[depth];
             // A layout seen in a mirror costs the same, so the first VARIABLE never lies beyond the middle.

@@ -1,0 +1,77 @@
+import java.lang.reflect.Constructor;
+import java.lang.reflect.Field;
+import java.lang.reflect.Method;
+import java.lang.reflect.Modifier;
+import java.nio.file.Files;
+import java.nio.file.Path;
+import java.util.Set;
+import java.util.TreeSet;
+import java.util.regex.Matcher;
+import java.util.regex.Pattern;
+
+/** The class's face is the document's and no more, and its text has none of the words that LANGUAGE.md rules out. */
+public final class FaceTest {
+    private static final Set<String> METHODS = Set.of(
+            "int put(int,int,int,int)", "int drop(int)", "int cross(int)", "int told(int,int)", "int free(int,int)",
+            "int set(int,int)", "long value(int)", "int sight(int)", "int plan(int,int,int)",
+            "int place(int,int,int,int)", "int step(int,int,int,int)", "int run(int,int)", "int weight(int,int)",
+            "int taken(int,int)", "int exchange(int,int)", "int hand(int)", "int count(int)", "int image(int)",
+            "int restore(int)");
+    private static final Set<String> FIELDS = Set.of("int UNKNOWN", "int OUTSIDE", "int STATE", "int FULL", "int NO",
+            "int NONE", "long GONE");
+
+    private static int wrong = 0;
+
+    private static void check(boolean holds, String what) {
+        if (!holds) {
+            wrong++;
+            System.out.println(what);
+        }
+    }
+
+    public static void main(String[] args) throws Exception {
+        members();
+        words();
+        System.out.println(wrong == 0 ? "the face is as told" : wrong + " faults of the face");
+        if (wrong != 0) {
+            System.exit(1);
+        }
+    }
+
+    private static void members() {
+        Class<?> it = StepRegisters.class;
+        check(Modifier.isPublic(it.getModifiers()) && Modifier.isFinal(it.getModifiers()), "not public and final");
+        Set<String> methods = new TreeSet<>();
+        for (Method m : it.getDeclaredMethods()) {
+            if (!m.isSynthetic() && !Modifier.isPrivate(m.getModifiers())) {
+                StringBuilder types = new StringBuilder();
+                for (Class<?> type : m.getParameterTypes()) {
+                    types.append(types.length() == 0 ? "" : ",").append(type);
+                }
+                methods.add(m.getReturnType() + " " + m.getName() + "(" + types + ")");
+            }
+        }
+        check(methods.equals(METHODS), "methods: " + methods);
+        Set<String> fields = new TreeSet<>();
+        for (Field f : it.getDeclaredFields()) {
+            if (!f.isSynthetic() && !Modifier.isPrivate(f.getModifiers())) {
+                fields.add(f.getType() + " " + f.getName());
+                check(f.getModifiers() == (Modifier.PUBLIC | Modifier.STATIC | Modifier.FINAL), "not a constant: " + f);
+            }
+        }
+        check(fields.equals(FIELDS), "fields: " + fields);
+        Constructor<?>[] constructors = it.getDeclaredConstructors();
+        check(constructors.length == 1 && constructors[0].getParameterCount() == 0, "another constructor");
+    }
+
+    private static void words() throws Exception {
+        String text = Files.readString(Path.of("src/main/java/StepRegisters.java"));
+        String code = text.replaceAll("(?s)/\\*.*?\\*/", "").replaceAll("//[^\n]*", "");
+        Matcher found = Pattern.compile("\\b(throw|throws|try|catch|synchronized|assert|package|\\w+Exact)\\b|->|::")
+                .matcher(code);
+        while (found.find()) {
+            check(false, "ruled out: " + found.group());
+        }
+        check(text.chars().allMatch(c -> c < 128), "a sign beyond 127");
+    }
+}
