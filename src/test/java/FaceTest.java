@@ -20,6 +20,9 @@ public final class FaceTest {
     private static final Set<String> FIELDS = Set.of("int UNKNOWN", "int OUTSIDE", "int STATE", "int FULL", "int NO",
             "int NONE", "long GONE");
 
+    private static final Set<String> IMPORTS = Set.of("java.util.Arrays", "java.util.ArrayList", "java.util.List",
+            "java.util.Iterator");
+
     private static int wrong = 0;
 
     private static void check(boolean holds, String what) {
@@ -31,6 +34,7 @@ public final class FaceTest {
 
     public static void main(String[] args) throws Exception {
         members();
+        classesInside();
         words();
         System.out.println(wrong == 0 ? "the face is as told" : wrong + " faults of the face");
         if (wrong != 0) {
@@ -64,6 +68,39 @@ public final class FaceTest {
         check(constructors.length == 1 && constructors[0].getParameterCount() == 0, "another constructor");
     }
 
+    private static void classesInside() {
+        Set<String> faces = new TreeSet<>();
+        for (Method m : StepRegisters.class.getDeclaredMethods()) {
+            if (Modifier.isPublic(m.getModifiers())) {
+                faces.add(m.getName());
+            }
+        }
+        Class<?>[] inside = StepRegisters.class.getDeclaredClasses();
+        check(inside.length < 12, "rule 11: too many classes");
+        limits(StepRegisters.class, faces);
+        for (Class<?> it : inside) {
+            check(Modifier.isStatic(it.getModifiers()), "rule 2: not static: " + it);
+            check((it.getModifiers() & (Modifier.PUBLIC | Modifier.PROTECTED)) == 0, "rule 1: too open: " + it);
+            check(it.getDeclaredClasses().length == 0, "a class inside one that is inside: " + it);
+            limits(it, faces);
+        }
+    }
+
+    private static void limits(Class<?> it, Set<String> faces) {
+        int fields = 0;
+        for (Field f : it.getDeclaredFields()) {
+            boolean fixed = Modifier.isStatic(f.getModifiers());
+            check(!fixed || Modifier.isFinal(f.getModifiers()), "rule 5: not final: " + f);
+            check(!fixed || f.getType().isPrimitive(), "rule 5: no plain constant: " + f);
+            fields += fixed ? 0 : 1;
+        }
+        check(fields <= 20, "rule 11: too many fields: " + it);
+        for (Method m : it.getDeclaredMethods()) {
+            check(m.getParameterCount() <= 7, "rule 11: too many parameters: " + m);
+            check(!Modifier.isPrivate(m.getModifiers()) || !faces.contains(m.getName()), "rule 1: name of " + m);
+        }
+    }
+
     private static void words() throws Exception {
         String text = Files.readString(Path.of("src/main/java/StepRegisters.java"));
         String code = text.replaceAll("(?s)/\\*.*?\\*/", "").replaceAll("//[^\n]*", "");
@@ -73,5 +110,9 @@ public final class FaceTest {
             check(false, "ruled out: " + found.group());
         }
         check(text.chars().allMatch(c -> c < 128), "a sign beyond 127");
+        Matcher imports = Pattern.compile("(?m)^import ([^;]*);").matcher(code);
+        while (imports.find()) {
+            check(IMPORTS.contains(imports.group(1)), "rule 4: import of " + imports.group(1));
+        }
     }
 }

@@ -16,6 +16,8 @@ public final class OtherBoundariesTest {
         takenByOther();
         takenTwiceAtMost();
         takenNoRing();
+        takenNoRingOfThree();
+        takenNoRingOfFour();
         takenAllSeven();
         takenNow();
         bound();
@@ -235,6 +237,46 @@ public final class OtherBoundariesTest {
         due("taken(1, 2)", y.taken(1, 2), 0);
         due("taken(0, 1)", y.taken(0, 1), 1);
         due("taken(2, 3)", y.taken(2, 3), 1);
+    }
+
+    private static void takenNoRingOfThree() {
+        sentence("TAKEN pairs do not lead from one of them to the other one: rings of three, by every order");
+        for (int a = 0; a <= 6; a++) {
+            for (int b = 0; b <= 6; b++) {
+                for (int c = 0; c <= 6; c++) {
+                    if (a != b && b != c && a != c) {
+                        // ab of 3, bc of 2, ca of 1.
+                        StepRegisters x = seeing(c, a, b, a, b, c, b);
+                        due("the heaviest", x.taken(a, b), 1);
+                        due("the next one", x.taken(b, c), 1);
+                        due("the last one", x.taken(c, a), 0);
+                        due("cost", x.count(3), 2);
+                    }
+                }
+            }
+        }
+    }
+
+    private static void takenNoRingOfFour() {
+        sentence("TAKEN pairs do not lead from one of them to the other one: rings of four, by every order");
+        for (int a = 0; a <= 6; a++) {
+            for (int code = 0; code < 7 * 7 * 7; code++) {
+                int b = code % 7;
+                int c = code / 7 % 7;
+                int d = code / 49;
+                if (Integer.bitCount(1 << a | 1 << b | 1 << c | 1 << d) == 4) {
+                    // ab of 4, cd of 3, bc of 2, da of 1: two rows that the third pair joins.
+                    StepRegisters x = seeing(a, b, a, b, a, d, c, d, c, b, c);
+                    due("the heaviest", x.taken(a, b), 1);
+                    due("the next one", x.taken(c, d), 1);
+                    due("what joins them", x.taken(b, c), 1);
+                    due("what would close the ring", x.taken(d, a), 0);
+                    due("how many", x.count(4), 3);
+                    due("cost", x.count(3), 2);
+                    due("bound", x.count(5), 2);
+                }
+            }
+        }
     }
 
     private static void takenAllSeven() {

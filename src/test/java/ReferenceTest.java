@@ -6,7 +6,7 @@ import java.util.Random;
 /**
  * Runs of calls at random, each answer held beside that of a plain model, which tries every PLAN one by one in the
  * document's order: registers, then cells, then turned statements. Arguments: how many runs, the greatest number of
- * statements that may be turned at once (each doubles the work), the first seed.
+ * statements that may be turned at once (each doubles the work), the first seed, how many full programs.
  */
 public final class ReferenceTest {
     private static int wrong = 0;
@@ -120,13 +120,14 @@ public final class ReferenceTest {
             return a != b && !free[Math.abs(a - b)];
         }
 
-        int cost(int[] row, int[] register, int[] cell) {
+        /** Counted no further than to the number that it must stay below to be of use. */
+        int cost(int[] row, int[] register, int[] cell, int below) {
             int sum = 0;
             int last0 = -1, last1 = -1, last2 = -1;
             for (int v : row) {
                 int g = register[v];
                 int before = g == 0 ? last0 : g == 1 ? last1 : last2;
-                if (before < 0 || far(before, cell[v])) sum++;
+                if ((before < 0 || far(before, cell[v])) && ++sum >= below) break;
                 if (g == 0) last0 = cell[v]; else if (g == 1) last1 = cell[v]; else last2 = cell[v];
             }
             return sum;
@@ -178,7 +179,7 @@ public final class ReferenceTest {
                 Found best) {
             if (v == 7) {
                 for (int k = 0; k < sets.length; k++) {
-                    int cost = cost(rows[k], register, cell);
+                    int cost = cost(rows[k], register, cell, best.cost);
                     if (cost < best.cost) {
                         best.cost = cost;
                         best.turned = sets[k];
@@ -302,7 +303,7 @@ public final class ReferenceTest {
         int hand(int mode) {
             if (mode < 0 || mode > 1) return -2;
             int least = Integer.MAX_VALUE;
-            for (int turned : turns(mode)) least = Math.min(least, cost(seen(turned), new int[7], hand));
+            for (int turned : turns(mode)) least = Math.min(least, cost(seen(turned), new int[7], hand, least));
             return least;
         }
 
@@ -370,10 +371,10 @@ public final class ReferenceTest {
             }
         }
 
-        /** Now and then a number just outside. */
+        /** Now and then a number just outside, or as far outside as can be. */
         int within(int low, int high) {
-            return random.nextInt(40) == 0 ? (random.nextBoolean() ? low - 1 : high + 1)
-                    : low + random.nextInt(high - low + 1);
+            int[] outside = {low - 1, high + 1, Integer.MIN_VALUE, Integer.MAX_VALUE};
+            return random.nextInt(40) == 0 ? outside[random.nextInt(4)] : low + random.nextInt(high - low + 1);
         }
 
         void put(int variables) {
@@ -460,11 +461,35 @@ public final class ReferenceTest {
         }
     }
 
+    /** All 7 variables in 10 statements, each of which may be turned: the most that there can be. */
+    private static void fullRun(long seed) {
+        Pair pair = new Pair(seed, 10);
+        Random random = pair.random;
+        for (int d = 1; d <= 6; d++) {
+            int on = random.nextInt(3) == 0 ? 1 : 0;
+            pair.due("free(" + d + ", " + on + ")", pair.x.free(d, on), pair.m.free(d, on));
+        }
+        int[] kinds = {1, 3, 4};
+        for (int s = 0; s < 10; s++) {
+            int kind = kinds[random.nextInt(3)];
+            int l = s % 7, r = (l + 1 + random.nextInt(6)) % 7, t = random.nextInt(7);
+            pair.due("put(" + kind + ", " + t + ", " + l + ", " + r + ")", pair.x.put(kind, t, l, r),
+                    pair.m.put(kind, t, l, r));
+        }
+        pair.lookAtProgram();
+        for (int r = 1; r <= 3; r++) {
+            pair.lookAtPlan(r, 1);
+            pair.lookAtPlan(r, 0);
+        }
+    }
+
     public static void main(String[] args) {
         int runs = args.length > 0 ? Integer.parseInt(args[0]) : 150;
         int mostTurns = args.length > 1 ? Integer.parseInt(args[1]) : 4;
         long seed = args.length > 2 ? Long.parseLong(args[2]) : 1;
         for (int k = 0; k < runs && wrong == 0; k++) oneRun(seed + k, mostTurns);
+        int fullRuns = args.length > 3 ? Integer.parseInt(args[3]) : 2;
+        for (int k = 0; k < fullRuns && wrong == 0; k++) fullRun(seed + k);
         System.out.println(wrong == 0 ? "all answers are as the model's" : wrong + " answers are not as the model's");
         if (wrong != 0) System.exit(1);
     }
