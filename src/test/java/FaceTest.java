@@ -4,6 +4,7 @@ import java.lang.reflect.Method;
 import java.lang.reflect.Modifier;
 import java.nio.file.Files;
 import java.nio.file.Path;
+import java.util.List;
 import java.util.Set;
 import java.util.TreeSet;
 import java.util.regex.Matcher;
@@ -36,6 +37,7 @@ public final class FaceTest {
         members();
         classesInside();
         words();
+        lengths();
         System.out.println(wrong == 0 ? "the face is as told" : wrong + " faults of the face");
         if (wrong != 0) {
             System.exit(1);
@@ -114,5 +116,23 @@ public final class FaceTest {
         while (imports.find()) {
             check(IMPORTS.contains(imports.group(1)), "rule 4: import of " + imports.group(1));
         }
+    }
+
+    /** A method begins with a line that ends in ") {" at its class's depth, and ends with a brace at the same depth. */
+    private static void lengths() throws Exception {
+        List<String> lines = Files.readAllLines(Path.of("src/main/java/StepRegisters.java"));
+        int methods = 0;
+        for (int start = 0; start < lines.size(); start++) {
+            Matcher head = Pattern.compile("( {4}| {8})[\\w<].*\\) \\{").matcher(lines.get(start));
+            if (head.matches() && !lines.get(start).trim().matches("(if|for|while|switch)\\b.*")) {
+                int end = start + 1;
+                while (end < lines.size() && !lines.get(end).equals(head.group(1) + "}")) {
+                    end++;
+                }
+                methods++;
+                check(end - start < 60, "rule 11: too long: " + lines.get(start).trim());
+            }
+        }
+        check(methods > METHODS.size(), "methods are not found in the text");
     }
 }

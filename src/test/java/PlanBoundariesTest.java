@@ -541,6 +541,15 @@ public final class PlanBoundariesTest {
         due("plan", y.plan(2, 1, 2), 682);
         due("plan", y.plan(1, 1, 0), 30);
         due("plan", y.plan(1, 1, 2), 0);
+        sentence("by STATEMENTS as they rise: a later one is seen behind those that are TURNED ahead of it");
+        StepRegisters z = new StepRegisters();
+        z.free(1, 0);
+        z.put(LESSER, 1, 1, 2);
+        z.put(SUM, 0, 2, 1);
+        // 1 2 1 2 1 0 pays 6; either one TURNED 5; both, 2 1 1 1 2 0, 4.
+        due("plan", z.plan(1, 0, 0), 6);
+        due("plan", z.plan(1, 1, 0), 4);
+        due("plan", z.plan(1, 1, 2), 3);
     }
 
     private static void stepsByRegister() {
